@@ -1100,12 +1100,13 @@ public final class RipePromises {
             copy(order, best);
         }
 
-        /** Is there one left that is late even if it is kept next? (FAR is never longer by a stop.) */
+        /** Is there one left that has no way or is late even if it is kept next? (FAR is never longer by a stop.) */
         private boolean misses(int from, int day, int left) {
             for (int p = 0; p < ITEMS; p++) {
-                if (has(left, p) && at(ripe, p) != NONE) {
+                if (has(left, p)) {
                     int far = land.distance(from, at(place, p));
-                    if (far == NONE || day + far > at(ripe, p) + at(slack, p)) {
+                    int last = at(ripe, p) + at(slack, p);
+                    if (far == NONE || at(ripe, p) != NONE && day + far > last) {
                         return true;
                     }
                 }

@@ -284,6 +284,11 @@ public final class PromiseTests {
             x.day(99);
         }
         are("8918", row(x.told(5), x.day(82), x.day(99), x.day(1), x.drift(1), x.day(0), x.told(5)), 8918, 9000, 9099, FULL, FULL, OUTSIDE, 9099);
+        RipePromises edge = on("t1;");
+        for (int i = 0; i < 100; i++) {
+            edge.day(90);
+        }
+        are("9000 is not above it, 9001 is", row(edge.told(5), edge.drift(1), edge.day(1), edge.drift(1), edge.undo(1), edge.day(1), edge.day(1)), 9000, 9001, FULL, FULL, 9000, 9001, FULL);
         RipePromises y = on("t1;k0 0;p0 0 1 9 9 9;p0 0 1 9 8 0;p0 0 1 9 7 1;");
         y.day(11);
         are("a chain falls with its first", row(y.told(8), y.told(9), y.fell(0)), 1, 6, 9);
@@ -343,6 +348,8 @@ public final class PromiseTests {
         are("who is on the way has no draw", row(two.drift(1), two.seed(0)), 1, 12345);
         RipePromises ripe = on("t1;k0 0;k0 1;p0 0 1 3 5 9;p1 0 2 3 6 9;p0 0 1 3 7 0;");
         are("keeps all that it can", row(ripe.drift(1), ripe.told(7), ripe.drift(1), ripe.told(7), ripe.drift(1), ripe.told(7), ripe.promise(2, 8)), 1, 0, 2, 1, 3, 7, 2);
+        RipePromises alone = on("t1;k0 0;p0 0 1 0 5 9;");
+        are("on its one day", row(alone.drift(2), alone.told(7), alone.promise(0, 8)), 2, 1, 1);
         RipePromises apart = on("t2;k0 0;");
         apart.seed(1406932606);
         are("9988 of 4 is 0; 22117 of 4 is 1: no way there", row(apart.drift(2), apart.keeper(0, 0), apart.seed(0)), 2, 0, 1449466924);
@@ -459,6 +466,7 @@ public final class PromiseTests {
         are("4 to 8", row(x.calendar(0, 4), x.calendar(0, 5), x.calendar(0, 6), x.calendar(0, 7), x.calendar(0, 8)), 0, 1, 2, 1, 0);
         are("1", row(x.calendar(1, 2), x.calendar(1, 3), x.calendar(1, 4)), 0, 1, 0);
         are("wrong", row(x.calendar(2, 0), x.calendar(-1, 10000), x.calendar(0, -1), x.calendar(0, 10000), x.calendar(0, 9999)), UNKNOWN, UNKNOWN, OUTSIDE, OUTSIDE, 0);
+        is("day 0", x.calendar(0, 0), 0);
         x.go(0, 1);
         x.day(6);
         x.keep(0);

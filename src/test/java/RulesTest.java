@@ -157,7 +157,11 @@ public final class RulesTest extends TreePathScanner<Void, Void> {
             rule(depth <= MOST_DEPTH, 11, one + " goes " + depth + " deep", where);
         }
         for (Element one : recursive) {
-            rule(one.getModifiers().contains(Modifier.STATIC) && one.toString().contains("int"), 8, one + " calls itself", where);
+            boolean guarded = false;
+            for (VariableElement v : ((ExecutableElement) one).getParameters()) {
+                guarded |= v.getSimpleName().contentEquals("depth");
+            }
+            rule(guarded && one.getModifiers().contains(Modifier.STATIC), 8, one + " calls itself", where);
         }
         rule(classes <= MOST_CLASSES, 11, classes + " classes", where);
     }
