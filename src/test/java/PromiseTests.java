@@ -1,73 +1,5 @@
 /** For each promise of the document: ordinary inputs, the edges that it names, wrong inputs. The answers are worked out by hand. */
-public final class PromiseTests {
-    private static final int NONE = RipePromises.NONE, UNKNOWN = RipePromises.UNKNOWN, OUTSIDE = RipePromises.OUTSIDE;
-    private static final int NOT = RipePromises.NOT, FULL = RipePromises.FULL;
-
-    /** Town 3 has no way. Promise 0 may be kept on days 5 to 7, 1 on day 3, 2 from 4 days behind the keeping of 0 on. */
-    private static final String PLAIN = "t4;r0 1 2;r1 2 3;r0 2 9;k0 0;k2 1;p0 1 5 2 5 9;p1 2 3 0 4 9;p0 2 4 3 5 0;";
-
-    private static int passed, failed, promise;
-
-    private static void is(String what, long got, long due) {
-        if (got == due) {
-            passed++;
-        } else {
-            failed++;
-            System.out.println("promise " + promise + ": " + what + " answered " + got + ", due is " + due);
-        }
-    }
-
-    /** Each row is what the calls of one line answered, then what is due. */
-    private static void are(String what, int[] got, int... due) {
-        for (int i = 0; i < Math.max(got.length, due.length); i++) {
-            is(what + " [" + i + "]", i < got.length ? got[i] : -77, i < due.length ? due[i] : -78);
-        }
-    }
-
-    private static int[] row(int... all) {
-        return all;
-    }
-
-    private static int tell(RipePromises x, String text) {
-        for (int i = 0; i < text.length(); i++) {
-            x.feed(text.charAt(i));
-        }
-        return x.land();
-    }
-
-    private static RipePromises on(String text) {
-        RipePromises x = new RipePromises();
-        int towns = tell(x, text);
-        if (towns < 0) {
-            is("the text " + text, towns, 0);
-        }
-        return x;
-    }
-
-    private static int[] toldAll(RipePromises x) {
-        int[] all = new int[13];
-        for (int i = 0; i < all.length; i++) {
-            all[i] = x.told(i);
-        }
-        return all;
-    }
-
-    private static int[] promiseAll(RipePromises x, int p) {
-        int[] all = new int[9];
-        for (int i = 0; i < all.length; i++) {
-            all[i] = x.promise(p, i);
-        }
-        return all;
-    }
-
-    private static int[] keeperAll(RipePromises x, int k) {
-        return row(x.keeper(k, 0), x.keeper(k, 1), x.keeper(k, 2), x.keeper(k, 3));
-    }
-
-    private static int[] planAll(RipePromises x, int k) {
-        return row(x.plan(k, NONE), x.plan(k, 0), x.plan(k, 1), x.plan(k, 2), x.plan(k, 3));
-    }
-
+public final class PromiseTests extends Check {
     private static void p01NewObject() {
         RipePromises x = new RipePromises();
         are("told", toldAll(x), 0, 0, 0, 0, 0, 0, 0, 0, 0, 0, 0, 0, 0);
@@ -105,16 +37,6 @@ public final class PromiseTests {
         is("the seed stays", x.seed(0), 77);
         x.image(1);
         are("no towns", row(x.land(), x.told(0), x.told(3), x.told(6), x.far(0, 0), x.goBack(1), x.day(1)), 0, 0, 0, 0, UNKNOWN, NOT, NOT);
-    }
-
-    private static void faulty(String text, int kind, int place) {
-        RipePromises x = new RipePromises();
-        are("the fault of " + text, row(tell(x, text), x.fault()), -10 - kind, place);
-    }
-
-    private static void sound(String text, int towns) {
-        RipePromises x = new RipePromises();
-        are("no fault in " + text, row(tell(x, text), x.fault()), towns, NONE);
     }
 
     private static void p04Fault() {
@@ -654,13 +576,9 @@ public final class PromiseTests {
             PromiseTests::p18Clash, PromiseTests::p19Still, PromiseTests::p20Hands, PromiseTests::p21Calendar, PromiseTests::p22Busiest,
             PromiseTests::p23Lives, PromiseTests::p24Share, PromiseTests::p25Let, PromiseTests::p26Write, PromiseTests::p27Judge, PromiseTests::p28Tear,
             PromiseTests::p29Seed, PromiseTests::p30Image, PromiseTests::p31GoBack, PromiseTests::wildNumbers};
-        for (Runnable test : all) {
-            promise++;
-            test.run();
+        for (int i = 0; i < all.length; i++) {
+            about("promise " + (i + 1), all[i]);
         }
-        System.out.println("PromiseTests: " + passed + " passed, " + failed + " failed");
-        if (failed > 0) {
-            System.exit(1);
-        }
+        end("PromiseTests");
     }
 }
